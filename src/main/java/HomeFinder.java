@@ -451,9 +451,14 @@ public final class HomeFinder {
         }
     }
 
-    /** The fields of a child and a home on one day, and the next day on which one may turn. */
+    /**
+     * The fields of a child and a home on one day, and the next day on which one may turn. A side
+     * of a term is kept as one number: a number of the text as it is, a field by its slot, which
+     * is told from these by lying beyond them.
+     */
     private static final class Sheet {
         private static final int SLOTS = 2 * FIELDS;
+        private static final int FIRST_SLOT = GREATEST_NUMBER + 1;
 
         private final int[] numbers = new int[SLOTS];
         private final int[] sinces = new int[SLOTS];
@@ -477,8 +482,9 @@ public final class HomeFinder {
             }
         }
 
-        int numberAt(int slot) {
-            return slot >= 0 && slot < SLOTS ? numbers[slot] : 0;
+        int numberOf(int side) {
+            int slot = side - FIRST_SLOT;
+            return slot >= 0 && slot < SLOTS ? numbers[slot] : side;
         }
 
         int turn() {
@@ -521,17 +527,13 @@ public final class HomeFinder {
         }
     }
 
-    /**
-     * The rules of one text. A side of a term is one number: up to 9999 the number itself,
-     * beyond that the slot of a field.
-     */
+    /** The rules of one text. */
     private static final class RuleBook {
         private static final int MOST_RULES = 20;
         private static final int MOST_TERMS = 6;
         private static final int MUST = 0;
         private static final int NIGHT = 1;
         private static final int WISH = 2;
-        private static final int FIRST_SLOT = GREATEST_NUMBER + 1;
 
         private final int[] kinds = new int[MOST_RULES];
         private final int[] weights = new int[MOST_RULES];
@@ -604,17 +606,13 @@ public final class HomeFinder {
         private boolean isSo(int rule, Sheet sheet) {
             int first = rule * MOST_TERMS;
             for (int term = first; term < first + termCounts[rule]; term++) {
-                int left = numberOf(lefts[term], sheet);
-                int right = numberOf(rights[term], sheet);
+                int left = sheet.numberOf(lefts[term]);
+                int right = sheet.numberOf(rights[term]);
                 if (signOf(left, right) != signs[term]) {
                     return false;
                 }
             }
             return true;
-        }
-
-        private static int numberOf(int side, Sheet sheet) {
-            return side < FIRST_SLOT ? side : sheet.numberAt(side - FIRST_SLOT);
         }
 
         /** The one sign that is so between two numbers. */
@@ -754,7 +752,7 @@ public final class HomeFinder {
                 refuse(MISPLACED);
                 return NONE;
             }
-            int side = number ? numberOfWord() : RuleBook.FIRST_SLOT + slot;
+            int side = number ? numberOfWord() : Sheet.FIRST_SLOT + slot;
             if (side == NONE || tooMany) {
                 refuse(side == NONE ? WRONG_NUMBER : TOO_MANY);
                 return NONE;
@@ -828,7 +826,7 @@ public final class HomeFinder {
         }
 
         private static boolean isOfWord(int letter) {
-            return isDigit(letter) || (letter >= 'a' && letter <= 'z');
+            return (letter >= 'a' && letter <= 'z') || (letter >= '0' && letter <= '9');
         }
 
         private static boolean isDigit(int letter) {

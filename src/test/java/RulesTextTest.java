@@ -19,6 +19,7 @@ public final class RulesTextTest {
         bars();
         barsByNight();
         barsByDays();
+        barsAtTheLastDays();
         wish();
         CHECK.finish();
     }
@@ -70,6 +71,14 @@ public final class RulesTextTest {
         bad("may c0=1", 0, MISPLACED);
         bad("Must c0=1", 0, MISPLACED);
         bad("musts c0=1", 0, MISPLACED);
+        bad("musta c0=1", 0, MISPLACED);
+        bad("mustz c0=1", 0, MISPLACED);
+        bad("must0 c0=1", 0, MISPLACED);
+        bad("must9 c0=1", 0, MISPLACED);
+        bad("must` c0=1", 4, MISPLACED);
+        bad("must{ c0=1", 4, MISPLACED);
+        bad("must/ c0=1", 4, MISPLACED);
+        bad("must: c0=1", 4, MISPLACED);
         bad("must1=1", 0, MISPLACED);
         bad("mus t 1=1", 0, MISPLACED);
         bad("must must 1=1", 5, MISPLACED);
@@ -213,6 +222,9 @@ public final class RulesTextTest {
             so("h" + field + "=" + (200 + field), true);
             so((100 + field) + "=c" + field, true);
         }
+        so("h7=207", true);
+        so("9998<9999", true);
+        so("c1<9999", true);
         so("c7<0", true);
         so("c7<c6", true);
         so("h0>c0", true);
@@ -298,6 +310,21 @@ public final class RulesTextTest {
         desk.fact(false, 0, 0, 7, 18);
         due("15: a rule a day ahead", desk.bars(0, 0), 10);
         due("16: that day", desk.barred(0, 0), 18);
+    }
+
+    private static void barsAtTheLastDays() {
+        HomeFinder desk = pair(false);
+        desk.need(0, 960, 999, false);
+        Check.read(desk, "must c0=0");
+        due("15: open up to the last day of all", desk.bars(0, 0), 0);
+        desk.fact(false, 0, 0, 1, 999);
+        due("15: a fact of the last day of all", desk.bars(0, 0), 10);
+        due("16: the last day of all", desk.barred(0, 0), 999);
+        desk.close(0, 998);
+        due("16: the day ahead of it", desk.barred(0, 0), 998);
+        desk.need(0, 999, 999, false);
+        desk.close(0, 999);
+        due("15: closed on the last day of all", desk.bars(0, 0), 1);
     }
 
     private static void wish() {
