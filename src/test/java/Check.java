@@ -15,6 +15,23 @@ final class Check {
         due(call, got ? 1 : 0, want ? 1 : 0);
     }
 
+    /** Compares two states, and prints the lines that differ. */
+    void same(String what, String got, String want) {
+        calls++;
+        if (got.equals(want)) {
+            return;
+        }
+        wrong++;
+        String[] gotLines = got.split("\n");
+        String[] wantLines = want.split("\n");
+        System.out.println(what + ": something has changed");
+        for (int i = 0; i < Math.min(gotLines.length, wantLines.length); i++) {
+            if (!gotLines[i].equals(wantLines[i])) {
+                System.out.println("  " + gotLines[i] + ", ahead of it: " + wantLines[i]);
+            }
+        }
+    }
+
     void finish() {
         System.out.println(calls + " answers, " + wrong + " of them not as due");
         if (wrong != 0 || calls == 0) {

@@ -3,7 +3,9 @@ import java.util.Random;
 /** Runs of calls drawn by chance (with fixed seeds), each answer held against the plain model's. */
 public final class RandomRunsTest {
     private static final int RUNS = 400;
-    private static final int CALLS = 500;
+    /** An object is used for 512 calls; the dearest step, a text of 500 bytes, makes 27. */
+    private static final int CALLS = 512 - 27;
+    private static final int STEPS = 2000;
 
     private final Check check;
     private final Random random;
@@ -12,6 +14,7 @@ public final class RandomRunsTest {
     private final Model model = new Model();
     /** Brute force over seven children and five homes is slow: few of these are made. */
     private int placingsLeft;
+    private int calls;
 
     private RandomRunsTest(Check check, int run) {
         this.check = check;
@@ -41,10 +44,12 @@ public final class RandomRunsTest {
     }
 
     private void due(String call, int got, int want) {
+        calls++;
         check.due("run " + run + ": " + call, got, want);
     }
 
     private void due(String call, boolean got, boolean want) {
+        calls++;
         check.due("run " + run + ": " + call, got, want);
     }
 
@@ -91,14 +96,14 @@ public final class RandomRunsTest {
         if (upTo(4) != 0) {
             readText(goodText(random));
         }
-        for (int i = 30 + 3 * homes + 2 * children; i < CALLS; i++) {
+        for (int step = 0; step < STEPS && calls <= CALLS; step++) {
             call(upTo(100));
         }
     }
 
     private void call(int kind) {
         if (kind < 3) {
-            int day = upTo(3) == 0 ? about(1000) % 300 : desk.count(5) + upTo(4) - 1;
+            int day = upTo(3) == 0 ? about(1000) % 300 : model.count(5) + upTo(4) - 1;
             due("clock(" + day + ")", desk.clock(day), model.clock(day));
         } else if (kind < 5) {
             seldom();
@@ -107,7 +112,7 @@ public final class RandomRunsTest {
         } else if (kind < 25) {
             value();
         } else if (kind < 28) {
-            paper(about(desk.count(1) + 1), day(), day());
+            paper(about(model.count(1) + 1), day(), day());
         } else if (kind < 31) {
             int home = about(5);
             int day = day();
@@ -142,7 +147,7 @@ public final class RandomRunsTest {
             int[] n = {random.nextInt(), random.nextInt(), random.nextInt()};
             due("feed", desk.feed(n[0], n[1], n[2], 0, -1), model.feed(n[0], n[1], n[2], 0, -1));
         } else if (chance == 3) {
-            int n = about(desk.count(6) + 1);
+            int n = about(model.count(6) + 1);
             due("end(" + n + ")", desk.end(n), model.end(n));
         } else {
             due("rules()", desk.rules(), model.rules());
@@ -183,7 +188,7 @@ public final class RandomRunsTest {
         int who = about(home ? 5 : 7);
         int field = upTo(4) == 0 ? about(8) : upTo(3);
         int day = day();
-        int known = upTo(3) == 0 ? about(1000) : desk.count(5) - upTo(5);
+        int known = upTo(3) == 0 ? about(1000) : model.count(5) - upTo(5);
         due("value(" + home + ", " + who + ", " + field + ", " + day + ", " + known + ")",
                 desk.value(home, who, field, day, known),
                 model.value(home, who, field, day, known));
@@ -241,7 +246,7 @@ public final class RandomRunsTest {
     }
 
     private void readText(String text) {
-        int had = desk.count(6);
+        int had = model.count(6);
         for (int from = 0; from < text.length(); from += 20) {
             int a = Check.word(text, from);
             int b = Check.word(text, from + 4);
