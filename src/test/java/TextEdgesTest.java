@@ -30,6 +30,7 @@ public final class TextEdgesTest {
         firstAlongTheText();
         tapeIsEmptyThen();
         thoseAheadStay();
+        nothingElseHappens();
         CHECK.finish();
     }
 
@@ -411,6 +412,21 @@ public final class TextEdgesTest {
             due("14: none of them wishes", desk.wish(0, 0), 1);
             due("14: blanks in their place", Check.read(desk, "  "), 0);
             due("14: none wishes", desk.wish(0, 0), 0);
+        }
+    }
+
+    /** Behind a fault all is as it was, but for the tape. */
+    private static void nothingElseHappens() {
+        HomeFinder emptied = Desks.busy();
+        emptied.end(0);
+        String want = State.of(emptied);
+        String six = "must " + times("2=2", " and ", 6) + " and ";
+        for (String fault : new String[] {"?", "must", "wish 101 1=1", "must 12345=1", six + "c0",
+            times("must 1=2", ";", 20) + ";night"}) {
+            HomeFinder desk = Desks.busy();
+            desk.end(0);
+            CHECK.due("14: '" + fault + "' is a fault", Check.read(desk, fault) < -2, true);
+            CHECK.same("14: behind '" + fault + "'", State.of(desk), want);
         }
     }
 }
